@@ -246,7 +246,7 @@ public final class QuestionReader {
         int faultKind;
         int faultPlace = NONE;
         private boolean isWord;
-        /** The fault that there is if something else must stand here; it always must if this is WRONG. */
+        /** The fault if something else must stand here, which is always so where this is WRONG. */
         private int unfit;
 
         Lexer(Text text) {
@@ -303,7 +303,7 @@ public final class QuestionReader {
             return tell(what, start);
         }
 
-        /** False, always, so that who tells of a fault can answer with it that the text is wrong. */
+        /** False, always: a reader that tells of a fault answers so that the text is wrong. */
         boolean tell(int what, int place) {
             faultKind = what;
             faultPlace = place;
@@ -449,7 +449,7 @@ public final class QuestionReader {
             }
         }
 
-        /** Values for which there is no room are left out: that there are too many is told later. */
+        /** Values for which there is no room are left out: they are counted where they are read. */
         void prepare(int level, int row, int value) {
             if (level < MAX_LEVELS && row < MAX_MEMBERS) {
                 values[level][row] = value;
@@ -828,9 +828,9 @@ public final class QuestionReader {
     }
 
     /**
-     * A condition as a row of parts, comparisons first and then joints, each of which joins two parts
-     * before it. While it is read each open bracket has a line of its own for what waits there, so
-     * that deep brackets and long rows of not take no calls within calls.
+     * A condition as a row of parts, comparisons first and then joints, each of which joins two
+     * parts before it. While it is read each open bracket has a line of its own for what waits
+     * there, so that deep brackets and long rows of not take no calls within calls.
      */
     private static final class Condition {
         static final int MAX_COMPARISONS = 60;
@@ -1064,7 +1064,7 @@ public final class QuestionReader {
         }
     }
 
-    /** Reads questions: each into the draft, which changes places with the latest when it is right. */
+    /** Reads each question into the draft, which changes places with the latest if it is right. */
     private static final class QuestionGrammar {
         private final Lexer lexer;
         private final Catalog catalog;
@@ -1152,7 +1152,7 @@ public final class QuestionReader {
             return names.read(Names.MEASURES, catalog.measureCount, lexer);
         }
 
-        /** The column's number, NONE if it is wrong; with isFull there is no room for what it begins. */
+        /** The column's number, NONE if it is wrong; isFull: what it begins would be one too many. */
         private int readColumn(boolean isFull) {
             int d = names.read(0, catalog.dimensionCount, lexer);
             if (d == NONE) {

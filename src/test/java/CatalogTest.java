@@ -13,6 +13,7 @@ public final class CatalogTest {
         letter();
         lettersOfWhatIsNotThere();
         manyMembers();
+        eightDimensions();
         probe.end();
     }
 
@@ -187,6 +188,26 @@ public final class CatalogTest {
         Probe.run(reader, "dimension first(x);dimension g(x);");
         dueName(reader, 40, "first");
         probe.illegalArgument("nothing behind a fault", () -> reader.letter(1, 0));
+    }
+
+    private static void eightDimensions() {
+        QuestionReader reader = new QuestionReader();
+        for (int d = 0; d < 8; d++) {
+            probe.due("dimension " + d, Probe.run(reader, "dimension d" + d + "(w,x,y,z" + d + ");measure m"
+                    + d + ";member d" + d + "(" + d + ",2,3,4),(-5,6,7,8);"), 3);
+        }
+        probe.due("opens", reader.open(), true);
+        for (int d = 0; d < 8; d++) {
+            dueName(reader, d, "d" + d);
+            dueName(reader, 11 + 4 * d, "z" + d);
+            dueName(reader, 40 + d, "m" + d);
+            dueValues(reader, d, new int[][] {{-5, 6, 7, 8}, {d, 2, 3, 4}});
+            probe.due("pick of " + d, reader.pick(d, 1), 0);
+        }
+        probe.right(reader, 1, "select d7.z7, max(m7) where d7.w = 7 and d7.z7 = 4 group by d7.z7;");
+        probe.due("the last column", reader.group(0), 31);
+        probe.due("the last measure", reader.item(1, 1), 7);
+        probe.due("its condition", reader.holds(), true);
     }
 
     private static void manyMembers() {

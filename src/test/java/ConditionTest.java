@@ -13,6 +13,7 @@ public final class ConditionTest {
         edgesOfInts();
         bindings();
         depths();
+        sixtyComparisons();
         state();
         probe.end();
     }
@@ -120,6 +121,14 @@ public final class ConditionTest {
                 (s, c, l, d, m) -> s == 9);
         dueTruths("(day.day=31 or ".repeat(40) + "(shop.store=9)".substring(1) + ")".repeat(39),
                 (s, c, l, d, m) -> s == 9 || d == 31);
+    }
+
+    private static void sixtyComparisons() {
+        dueTruths("day.day=99 or ".repeat(59) + "shop.land=1", (s, c, l, d, m) -> l == 1);
+        dueTruths("day.day<>99 and ".repeat(59) + "shop.land=1", (s, c, l, d, m) -> l == 1);
+        dueTruths("shop.land=1" + " or day.day=99".repeat(59), (s, c, l, d, m) -> l == 1);
+        dueTruths("day.day=99 or (day.day<>99 and ".repeat(29) + "day.day=1 or shop.land=1"
+                + ")".repeat(29), (s, c, l, d, m) -> d == 1 || l == 1);
     }
 
     private static void state() {

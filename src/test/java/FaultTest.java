@@ -8,6 +8,7 @@ public final class FaultTest {
         signs();
         numbers();
         ends();
+        trimmedEnds();
         statementBeginnings();
         dimensions();
         measures();
@@ -56,6 +57,8 @@ public final class FaultTest {
         probe.fault(reader, 0, Probe.SIGN, "select count(*) where day.day = ^--1;");
         probe.fault(reader, 0, Probe.SIGN, "select count(*) where day.day = 1^-;");
         probe.fault(reader, 0, Probe.SIGN, "select count(*) where day.day = ^+1;");
+        probe.fault(reader, 0, Probe.SIGN, "select count(*) where day.day = 1^:");
+        probe.fault(reader, 0, Probe.SIGN, "select count(*) where day.day = 1^/");
         probe.fault(reader, 0, Probe.SIGN, "select ^_x;");
         probe.fault(reader, 0, Probe.OTHER, "select count(*) where day.day = 1^-2;");
         probe.fault(reader, 0, Probe.OTHER, "select count(*) where day.day < ^= 1;");
@@ -115,6 +118,35 @@ public final class FaultTest {
         probe.fault(open, 0, Probe.END, "select count(*) group by^");
         probe.fault(open, 0, Probe.END, "select shop.city group by day.day^");
         probe.right(open, 1, "select count(*);   ");
+    }
+
+    /** The bytes that went must not count, though each would go on with the text's last word. */
+    private static void trimmedEnds() {
+        trimmedEnd("measure abc", "defghijk;", Probe.END, 11);
+        trimmedEnd("measure abc_1  ", " ;   ", Probe.END, 15);
+        trimmedEnd("measure a", "           ", Probe.END, 9);
+        trimmedEnd("dimension a(x);member a(12", "345678);", Probe.END, 26);
+        trimmedEnd("dimension a(x);member a(-", "12345678);", Probe.SIGN, 24);
+        trimmedEnd("dimension a(x);member a(<", "=12345678);", Probe.OTHER, 24);
+        QuestionReader open = Probe.openReader();
+        Probe.feed(open, "select count(*) where day.day <= 1;");
+        open.trim(4);
+        open.run();
+        probe.due("fault of a trimmed sign", open.fault(0), Probe.END);
+        Probe.feed(open, "select count(*) where day.day <=");
+        open.trim(1);
+        open.run();
+        probe.due("fault of half a sign", open.fault(0), Probe.END);
+        probe.due("place of half a sign", open.fault(1), 31);
+    }
+
+    private static void trimmedEnd(String text, String trimmed, int kind, int place) {
+        QuestionReader reader = new QuestionReader();
+        Probe.feed(reader, text + trimmed);
+        reader.trim(trimmed.length());
+        reader.run();
+        probe.due("fault of trimmed " + text, reader.fault(0), kind);
+        probe.due("place of trimmed " + text, reader.fault(1), place);
     }
 
     private static void statementBeginnings() {
