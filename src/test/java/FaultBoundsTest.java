@@ -191,7 +191,7 @@ public final class FaultBoundsTest {
     }
 
     private static void endWithinAStatement() {
-        bounds.sentence("END: the text ends within a statement; the text's end, how many bytes it has (blanks with them)");
+        bounds.sentence("END: the text ends within a statement; its place: how many bytes it has (blanks with them)");
         String[] told = {"dimension c ( p , q , r , s ) ;", "measure c ;",
             "member a ( 1 , 2 ) , ( -3 , 4 ) ;"};
         for (String statement : told) {

@@ -37,6 +37,7 @@ public final class QuestionBoundsTest {
         bindings();
         itemsThatAreNoGroupColumns();
         theQuestionIsTheLast();
+        nothingOfEarlierQuestionsStays();
         withoutQuestion();
         itemBounds();
         groupBounds();
@@ -256,7 +257,7 @@ public final class QuestionBoundsTest {
     }
 
     private static void setsAskedWithTheGroup() {
-        bounds.sentence("MANY: more grouping sets (at the word group, asked when the group was read with which there are)");
+        bounds.sentence("more grouping sets (at the word group, asked when the group was read with which there are)");
         String six = "cube(a.w,a.x,a.y,a.z,b.w,b.x";
         bounds.faulty(WIDE, Probe.MANY, "select count(*) ^group by " + six + ")");
         bounds.faulty(WIDE, Probe.MANY, "select count(*) ^group by " + six + ") $");
@@ -308,8 +309,8 @@ public final class QuestionBoundsTest {
         for (int d = 0; d < 8; d++) {
             for (int level = 0; level < 4; level++) {
                 String column = "d" + d + ".l" + level;
-                Bounds.Maker maker = Bounds.with(Bounds.opened(text.toString()), "select " + column
-                        + ",grouping(" + column + ") where " + column + "=" + (level + 1) + " group by " + column + ";");
+                Bounds.Maker maker = Bounds.with(Bounds.opened(text.toString()), "select " + column + ",grouping("
+                        + column + ") where " + column + "=" + (level + 1) + " group by " + column + ";");
                 int number = 4 * d + level;
                 bounds.answers("item " + column, maker, number, reader -> reader.item(0, 1));
                 bounds.answers("grouping of " + column, maker, number, reader -> reader.item(1, 1));
@@ -388,6 +389,17 @@ public final class QuestionBoundsTest {
         dueHolds(maker, (no + " or ").repeat(59) + yes, true);
         dueHolds(maker, (yes + " and ").repeat(59) + no, false);
         dueHolds(maker, (yes + " and " + no + " or ").repeat(29) + yes + " and " + yes, true);
+        dueTruths(Bounds.OPEN, "shop.store = 3 and day.day = 1 or shop.store = 4 and not day.day = 15"
+                + " or shop.store = 9",
+                (store, day) -> store == 3 && day == 1 || store == 4 && day != 15 || store == 9);
+        dueTruths(Bounds.OPEN, "shop.store = 3 or (day.day = 1 or shop.store = 4) and not (day.day = 31"
+                + " or shop.store = 7)", (store, day) -> store == 3
+                || (day == 1 || store == 4) && !(day == 31 || store == 7));
+        dueTruths(Bounds.OPEN, "not (shop.store = 3 or day.day = 1) and not (shop.store = 4 and day.day = 15)",
+                (store, day) -> !(store == 3 || day == 1) && !(store == 4 && day == 15));
+        dueTruths(Bounds.OPEN, "(shop.store <> 3 and ".repeat(30) + "(day.day = 1 or ".repeat(10)
+                + "day.day = 31 and shop.store = 7" + ")".repeat(40),
+                (store, day) -> store != 3 && (day == 1 || day == 31 && store == 7));
     }
 
     private static void dueHolds(Bounds.Maker maker, String condition, boolean due) {
@@ -432,6 +444,55 @@ public final class QuestionBoundsTest {
                 reader -> reader.count(3));
     }
 
+    /** The rows are made at first and used again: what other questions left in them must not count. */
+    private static void nothingOfEarlierQuestionsStays() {
+        bounds.sentence("THE QUESTION is the last one: nothing of those before it, right or refused, stays");
+        String[] before = {"select sum(n),min(n),max(n) where not (day.day not in (1,2,3) or shop.store = 1)"
+                + " and not shop.city in (7) or not day.day < 3 group by cube(day.day,shop.city,shop.land);",
+            "select min(n) where not (shop.store not in (3", "select min(n) where ((day.day = 1 or not (",
+            "select min(n) where day.day not in (1,2) or day.day = 1 and not",
+            "select min(n) where not not not (not", "select shop.city, day.day",
+            "select min(n) group by shop.city, rollup(day.day, day.month), cube(shop.land"};
+        for (String text : before) {
+            for (int times = 1; times <= 3; times++) {
+                Bounds.Maker maker = Bounds.OPEN;
+                for (int i = 0; i < times; i++) {
+                    maker = Bounds.with(maker, text);
+                }
+                dueTruths(maker, "day.day = 1", (store, day) -> day == 1);
+                dueTruths(maker, "day.day between 2 and 20", (store, day) -> day == 15);
+                dueTruths(maker, "day.day in (31,1)", (store, day) -> day != 15);
+                dueTruths(maker, "(day.day = 1 or shop.store = 4) and shop.store > 3",
+                        (store, day) -> (day == 1 || store == 4) && store > 3);
+                Bounds.Maker plain = Bounds.with(maker, "select count(*);");
+                bounds.answers("the only set", plain, 0, reader -> reader.set(0));
+                bounds.answers("sets", plain, 1, reader -> reader.count(5));
+                bounds.answers("group columns", plain, 0, reader -> reader.count(4));
+                bounds.answers("comparisons", plain, 0, reader -> reader.count(6));
+                bounds.answers("items", plain, 1, reader -> reader.count(3));
+                bounds.answers("the condition", plain, true, reader -> reader.holds() ? 1 : 0);
+            }
+        }
+    }
+
+    interface Truth {
+        boolean of(int store, int day);
+    }
+
+    private static void dueTruths(Bounds.Maker maker, String condition, Truth truth) {
+        Bounds.Maker asked = Bounds.with(maker, WHERE + condition + ";");
+        int[] stores = {3, 4, 7, 9};
+        int[] days = {1, 15, 31};
+        for (int shop = 0; shop < stores.length; shop++) {
+            for (int day = 0; day < days.length; day++) {
+                int p = shop;
+                int q = day;
+                bounds.answers(condition + " at " + shop + ", " + day, asked, truth.of(stores[shop], days[day]),
+                        reader -> 0 * (reader.pick(0, p) + reader.pick(1, q)) + (reader.holds() ? 1 : 0));
+            }
+        }
+    }
+
     private static void withoutQuestion() {
         bounds.sentence("(none if that had none)");
         for (Bounds.Maker maker : UNASKED) {
@@ -456,6 +517,15 @@ public final class QuestionBoundsTest {
         Bounds.Maker full = Bounds.with(Bounds.OPEN, "select " + "sum(price),".repeat(23) + "sum(n);");
         bounds.answers("the last of 24", full, 1, reader -> reader.item(23, 1));
         bounds.argumentOutside("item of 24", full, 0, 23, (reader, i) -> reader.item(i, 0));
+        bounds.sentence("item: 0 a column, 1 sum, 2 min, 3 max, 4 count, 5 grouping");
+        Bounds.Maker six = Bounds.with(Bounds.OPEN,
+                "select shop.city,sum(n),min(n),max(n),count(*),grouping(shop.city) group by shop.city;");
+        int[] targets = {1, 1, 1, 1, 0, 1};
+        for (int i = 0; i < 6; i++) {
+            int asked = i;
+            bounds.answers("type of item " + i, six, i, reader -> reader.item(asked, 0));
+            bounds.answers("target of item " + i, six, targets[i], reader -> reader.item(asked, 1));
+        }
         bounds.sentence("item: the column's number, or the measure, 0 for count");
         bounds.answers("of count", ASKED, 0, reader -> reader.item(2, 1));
         bounds.answers("of sum", ASKED, 1, reader -> reader.item(1, 1));

@@ -25,6 +25,7 @@ public final class TextBoundsTest {
         wordsBegin();
         wordsGoOn();
         caseCounts();
+        digits();
         ints();
         minusSigns();
         longestSigns();
@@ -151,6 +152,28 @@ public final class TextBoundsTest {
             reader.trim(1);
             return reader.run();
         });
+        // What went would go on with the text's last word, number, sign or blank.
+        dueTrimmed("measure abc", "def;", Probe.END, 11);
+        dueTrimmed("measure abc  ", "  ;", Probe.END, 13);
+        dueTrimmed("dimension a(x);member a(12", "34);", Probe.END, 26);
+        dueTrimmed("dimension a(x);member a(2147483647", "0);", Probe.END, 34);
+        dueTrimmed("dimension a(x);member a(-", "12);", Probe.SIGN, 24);
+        dueTrimmed("dimension a(x);member a<", "=1);", Probe.OTHER, 23);
+        dueTrimmed("measure a;   ", "   ", 0, -1);
+        bounds.answers("half a sign", Bounds.fed(Bounds.OPEN, WHERE + "<="), WHERE.length() + 1,
+                reader -> 0 * (reader.trim(1) + reader.run()) + reader.fault(1));
+    }
+
+    private static void dueTrimmed(String text, String trimmed, int kind, int place) {
+        Bounds.Maker maker = () -> {
+            QuestionReader reader = new QuestionReader();
+            Probe.feed(reader, text + trimmed);
+            reader.trim(trimmed.length());
+            reader.run();
+            return reader;
+        };
+        bounds.answers("fault of trimmed " + text, maker, kind, reader -> reader.fault(0));
+        bounds.answers("place of trimmed " + text, maker, place, reader -> reader.fault(1));
     }
 
     private static void runOfNothing() {
@@ -279,6 +302,22 @@ public final class TextBoundsTest {
         bounds.faulty(Bounds.OPEN, Probe.NAME, "select count(*) group by ^Cube(day.day);");
     }
 
+    private static void digits() {
+        bounds.sentence("NUMBERS are digits, as many as follow one another");
+        for (int letter = 33; letter < 256; letter++) {
+            String text = "member a(1^" + (char) letter + " ";
+            Bounds.Maker told = Bounds.told("dimension a(x);");
+            if (letter >= '0' && letter <= '9') {
+                bounds.answers("1 and " + (char) letter, Bounds.with(told, "member a(1" + (char) letter + ");"),
+                        10 + letter - '0', reader -> reader.value(0, 0, 0));
+            } else if (isLetter(letter) || "(;.*=<>".indexOf(letter) >= 0) {
+                bounds.faulty(told, Probe.OTHER, text);
+            } else if (letter != ')' && letter != ',' && letter != '^') {
+                bounds.faulty(told, Probe.SIGN, text);
+            }
+        }
+    }
+
     private static void ints() {
         bounds.sentence("a number that is no int");
         String[] right = {"2147483647", "-2147483648", "0", "-0", "00", "-00000000000000000000000001",
@@ -289,7 +328,7 @@ public final class TextBoundsTest {
             bounds.answers("value " + number, maker, Long.parseLong(number),
                     reader -> reader.value(0, 0, 0));
         }
-        String[] wrong = {"2147483648", "-2147483649", "2147483650", "-2147483650", "4294967295",
+        String[] wrong = {"2147483648", "-2147483649", "2147483650", "-2147483650", "-21474836480", "4294967295",
             "4294967296", "-4294967296", "9999999999", "9223372036854775807", "9223372036854775808",
             "-9223372036854775808", "-9223372036854775809", "18446744073709551616",
             "18446744073709551617", "00000000000000000000002147483648", "1" + "0".repeat(300)};
@@ -411,7 +450,7 @@ public final class TextBoundsTest {
         for (String word : RESERVED) {
             String[] names = {word.toUpperCase(), word.substring(0, 1).toUpperCase() + word.substring(1),
                 word.substring(0, word.length() - 1) + "X", word + "s", word + "_", word + "1", word + word,
-                "a" + word};
+                "a" + word, "b" + word, "ab" + word, "bb" + word};
             for (String name : names) {
                 bounds.right(Bounds.FRESH, 2, "dimension " + name + "(" + name + ");measure m;");
                 bounds.right(Bounds.FRESH, 1, "measure " + name + ";");
