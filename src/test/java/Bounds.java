@@ -84,6 +84,13 @@ final class Bounds {
         same(what, Snapshot.of(reader), Snapshot.of(maker.make()));
     }
 
+    /** A call that answers, and must not change anything. */
+    void leaves(String what, Maker maker, long due, Ask ask) {
+        QuestionReader reader = maker.make();
+        probe.due(sentence + what, ask.of(reader), due);
+        same(what, Snapshot.of(reader), Snapshot.of(maker.make()));
+    }
+
     interface AskOne {
         long of(QuestionReader reader, int number);
     }

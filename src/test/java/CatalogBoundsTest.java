@@ -337,11 +337,12 @@ public final class CatalogBoundsTest {
     private static void openConditions() {
         bounds.sentence("OPEN from now on, if it was NEW and has a dimension, none without members, and a measure");
         String[] refused = {"", "measure m;", "dimension a(x);", "dimension a(x);measure m;",
-            "dimension a(x);member a(1);", "dimension a(x);dimension b(x);measure m;member a(1);",
-            "dimension a(x);dimension b(x);measure m;member b(1);",
+            "dimension a(x);member a(3),(1),(2);",
+            "dimension a(x);dimension b(x);measure m;member a(3),(1),(2);",
+            "dimension a(x);dimension b(x);measure m;member b(3),(1),(2);",
             dimensions(8) + "measure m;member d0(1,1,1,1);member d7(1,1,1,1);"};
         for (String text : refused) {
-            bounds.answers("open of " + text, Bounds.told(text), false, reader -> reader.open() ? 1 : 0);
+            bounds.leaves("open of " + text, Bounds.told(text), 0, reader -> reader.open() ? 1 : 0);
             Bounds.Maker asked = () -> {
                 QuestionReader reader = Bounds.told(text).make();
                 reader.open();
@@ -365,7 +366,7 @@ public final class CatalogBoundsTest {
 
     private static void openOnlyOnce() {
         bounds.sentence("whether it was so");
-        bounds.answers("a second time", Bounds.OPEN, false, reader -> reader.open() ? 1 : 0);
+        bounds.leaves("a second time", Bounds.OPEN, 0, reader -> reader.open() ? 1 : 0);
         bounds.answers("a second time leaves it open", Bounds.OPEN, 1, reader -> {
             reader.open();
             return Probe.run(reader, "select count(*);");

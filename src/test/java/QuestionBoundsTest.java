@@ -46,6 +46,7 @@ public final class QuestionBoundsTest {
         pickBounds();
         pickOfNewReader();
         holdsWithoutWhere();
+        askingChangesNothing();
         bounds.end();
     }
 
@@ -604,5 +605,24 @@ public final class QuestionBoundsTest {
                 "select count(*);" + WHERE + "day.day = 0;"), false, reader -> reader.holds() ? 1 : 0);
         bounds.sentence("holds: Illegal state: there is no question");
         bounds.state("behind one that went", Bounds.with(ASKED, " "), reader -> reader.holds() ? 1 : 0);
+    }
+
+    private static void askingChangesNothing() {
+        bounds.sentence("Nothing is promised beyond the answers and state changes described above");
+        Bounds.Maker fed = Bounds.fed(ASKED, "select sum(n);");
+        bounds.leaves("trim of nothing", fed, 14, reader -> reader.trim(0));
+        bounds.leaves("fault", fed, -1, reader -> reader.fault(1));
+        bounds.leaves("count", fed, 14, reader -> reader.count(2));
+        bounds.leaves("dimension", fed, 4, reader -> reader.dimension(0, 1));
+        bounds.leaves("value", fed, 9, reader -> reader.value(0, 0, 3));
+        bounds.leaves("rank", fed, 2, reader -> reader.rank(0, 1, 1));
+        bounds.leaves("find", fed, 3, reader -> reader.find(0, 9));
+        bounds.leaves("find without one", fed, -1, reader -> reader.find(0, 8));
+        bounds.leaves("letter", fed, 's', reader -> reader.letter(0, 0));
+        bounds.leaves("item", fed, 1, reader -> reader.item(1, 1));
+        bounds.leaves("group", fed, 2, reader -> reader.group(1));
+        bounds.leaves("set", fed, 3, reader -> reader.set(1));
+        bounds.leaves("holds", fed, 1, reader -> reader.holds() ? 1 : 0);
+        bounds.leaves("a pick that was there", fed, 0, reader -> reader.pick(0, 0));
     }
 }
